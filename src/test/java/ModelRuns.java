@@ -21,6 +21,7 @@ public final class ModelRuns {
             playRun(run);
         }
         Faults.play();
+        Swaps.play();
         if (wrong != 0) {
             System.out.println(wrong + " answers are not as due");
             System.exit(1);
@@ -118,7 +119,13 @@ public final class ModelRuns {
             case 18: due(at + "claim " + p + " " + b + " " + w, x.claim(p, b, w), m.claim(p, b, w)); break;
             case 19: due(at + "saves " + p + " " + b + " " + w, x.saves(p, b, w), m.saves(p, b, w)); break;
             case 20: due(at + "scrape " + what, x.scrape(what), m.scrape(what)); break;
-            case 21: due(at + "swaps", x.swaps(), m.swaps()); break;
+            case 21: {
+                if (below(2) == 0) {
+                    changeAbout(x, m);
+                }
+                due(at + "swaps", x.swaps(), m.swaps());
+                break;
+            }
             case 22: {
                 int kind = number(0, 5);
                 due(at + "rate " + kind + " " + b, x.rate(kind, b), m.rate(kind, b));
@@ -132,6 +139,23 @@ public final class ModelRuns {
                 break;
             }
             default: due(at + "trace", x.trace(), m.trace); break;
+        }
+    }
+
+    /** Sees on some of the BARS what HOLDS leave on them, in another order. */
+    private static void changeAbout(LeanedBars x, Model m) {
+        List<Integer> which = new ArrayList<>();
+        List<Integer> rusts = new ArrayList<>();
+        for (int b = 0; b < m.metals.size(); b++) {
+            if (below(6) > 0) {
+                which.add(b);
+                rusts.add(below(rusts.size() + 1), m.rustIn(b, 9));
+            } else {
+                due("hide " + b, x.hide(b), m.hide(b));
+            }
+        }
+        for (int i = 0; i < which.size(); i++) {
+            due("saw " + which.get(i), x.saw(which.get(i), rusts.get(i)), m.saw(which.get(i), rusts.get(i)));
         }
     }
 
@@ -217,6 +241,30 @@ public final class ModelRuns {
             }
             text.setLength(Math.min(300, text.length()));
             return text.toString();
+        }
+    }
+
+    /** BARS that share few RUSTS, changed about. */
+    static final class Swaps {
+        static void play() {
+            for (int i = 0; i < 300; i++) {
+                StringBuilder text = new StringBuilder();
+                int kinds = 1 + below(3);
+                for (int b = 0; b < 6; b++) {
+                    text.append("bar").append(1 + below(kinds)).append(';');
+                }
+                LeanedBars x = new LeanedBars();
+                Model m = new Model();
+                for (int at = 0; at < text.length(); at++) {
+                    x.type(text.charAt(at), 1);
+                    m.type(text.charAt(at), 1);
+                }
+                due("square", x.square(), m.square());
+                for (int again = 0; again < 3; again++) {
+                    changeAbout(x, m);
+                    due("swaps of " + text + " " + m.now.seen, x.swaps(), m.swaps());
+                }
+            }
         }
     }
 

@@ -195,6 +195,12 @@ public final class PromiseTests {
         dueSquare("bar 1 person 1;", -16);
         dueSquare("bars 1;", -10);
         dueSquare("ba 1;", -10);
+        dueSquare("car 1;", -10);
+        dueSquare("ber 1;", -10);
+        dueSquare("bat 1;", -10);
+        dueSquare("rerson 1;", -10);
+        dueSquare("pain 0 0;", -10);
+        dueSquare("paints 0 0 1;", -10);
         dueSquare("Bar 1;", -10);
         dueSquare("barX 1;", -13);
         dueSquare("bar\t1;", -13);
@@ -203,6 +209,14 @@ public final class PromiseTests {
         dueSquare("bar 1; 1;", -17);
         dueSquare("1bar;", -10);
         dueSquare("bar 1;#", -16);
+        dueSquare("bar person 1;", -14);
+        dueSquare("person bar 1;", -17);
+        dueSquare("rain bar 1;", -15);
+        dueSquare("rain 0 bar 1;", -17);
+        dueSquare("bar 1;paint bar 1;", -22);
+        dueSquare("bar 1;paint 0 bar 1;", -24);
+        dueSquare("bar 1;paint 0 0 bar 1;", -26);
+        dueSquare("bar 1;paint 0 0 1 bar 1;", -28);
         dueSquare("person", -16);
         dueSquare("person 0;", -17);
         dueSquare("person 10;", -17);
@@ -315,6 +329,14 @@ public final class PromiseTests {
             due("paint(0, " + y + ")", x.paint(0, y), first[y]);
             due("paint(1, " + y + ")", x.paint(1, y), second[y]);
         }
+        LeanedBars full = told("bar 1;bar 1;" + times(8, "paint 1 0 5;"));
+        due("paint(1, 0), eight times", full.paint(1, 0), 2);
+        due("paint(1, 4), eight times", full.paint(1, 4), 1);
+        due("paint(0, 0), eight of the other", full.paint(0, 0), 0);
+        type(full, "bar 1;bar 1;");
+        full.square();
+        due("paint(1, 0), told anew without", full.paint(1, 0), 0);
+        due("paint(1, 4), told anew without", full.paint(1, 4), 0);
         due("paint(2, 0)", x.paint(2, 0), BAD);
         due("paint(-1, 0)", x.paint(-1, 0), BAD);
         due("paint(0, 10)", x.paint(0, 10), BAD);
@@ -497,7 +519,17 @@ public final class PromiseTests {
         due("sure, the second", x.sure(1), -5);
         x.saw(0, 10);
         due("sure, the second may hold none", x.sure(1), -5);
+        x.saw(0, 10 + 70 + 20);
         x.saw(1, 10);
+        due("sure of bar 0, the first", x.sure(0), 0);
+        due("sure of bar 0, the second", x.sure(1), 0);
+        x.saw(0, 10 + 1);
+        due("sure, no WAYS of bar 0", x.sure(1), NONE);
+        x.saw(0, 10 + 2 + 7);
+        x.hide(1);
+        due("sure of bar 0, the other free", x.sure(0), 0);
+        x.saw(1, 10);
+        x.saw(0, 10);
         due("sure of none", x.sure(0), -4);
         due("sure of none, the other", x.sure(1), -4);
         x.saw(1, 11);
@@ -635,6 +667,18 @@ public final class PromiseTests {
         due("scrape(-1)", x.scrape(-1), BAD);
         due("scrape(least)", x.scrape(LEAST), BAD);
         due("scrape(greatest)", x.scrape(GREATEST), BAD);
+        LeanedBars three = told("bar 1;person 1;person 1;person 1;");
+        // three of 0 .. 10 each that are 15: 17 * 16 / 2 - 3 * (6 * 5 / 2)
+        due("scrape, three", three.scrape(1), 91);
+        LeanedBars dry = told("bar 1;person 9;person 9;person 9;paint 0 4 1;paint 0 5 1;paint 0 6 1;paint 0 7 1;"
+            + "paint 0 8 1;paint 0 9 1;");
+        due("scrape, three with 4 WINTERS or more each", dry.scrape(1), 7 * 7 * 7);
+        LeanedBars either = told("bar 1;bar 1;person 3;person 5;");
+        either.saw(0, 10 + 30);
+        // ten times 3, six times 5, or five times 3 and three times 5; who is left over holds none,
+        // or the other bar: that is not held in 3 WAYS of 23, and other RUSTS are of 2 at most
+        due("scrape, who is left over", either.scrape(0), 1);
+        due("scrape, who is left over, how many", either.scrape(1), 3);
         due("scrape, nobody", told("bar 1;bar 2;").scrape(0), 0);
         due("scrape, nobody, how many", told("bar 1;bar 2;").scrape(1), 1);
     }
@@ -681,12 +725,16 @@ public final class PromiseTests {
         dueSwaps(same, new int[] {20, 30, 10, 30, 10, 20}, 3);
         dueSwaps(same, new int[] {10, 20, 30, 20, 10, 30}, 2);
         dueSwaps(same, new int[] {20, 20, 30, 30, 10, 10}, 4);
+        dueSwaps(same, new int[] {20, 30, 30, 10, 10, 20}, 3);
+        dueSwaps(same, new int[] {30, 20, 30, 10, 20, 10}, 3);
+        dueSwaps(same, new int[] {30, 10, 30, 20, 20, 10}, 2);
         dueSwaps(same, new int[] {10, 20, 20, 20, 30, 30}, NONE);
         due("nothing seen changed", same.seen(1), 20);
         due("nothing rusted changed", same.rust(1, 9), 10);
     }
 
     private static void promise23Rate() {
+        due("rate, covered first and last", told("bar 1;paint 0 0 1;paint 0 9 1;").rate(1, 0), 3);
         LeanedBars x = told("bar 2;bar 3;bar 1;person 4;rain 0 0;paint 1 8 5;paint 1 2 2;paint 1 3 2;");
         x.holds(0, 1, 0, 4);
         x.holds(0, 1, 0, 1);
@@ -752,7 +800,11 @@ public final class PromiseTests {
         type(x, "bar");
         x.rate(0, 0);
         due("back(0)", x.back(0), 1);
-        due("back: held", x.held(0, 0), 1);
+        due("back: PERSON", x.held(0, 0), 1);
+        due("back: BAR", x.held(0, 1), 0);
+        due("back: from", x.held(0, 2), 3);
+        due("back: n", x.held(0, 3), 2);
+        due("back: rust(0, 9)", x.rust(0, 9), 10 + 10);
         due("back: rust(1, 9)", x.rust(1, 9), 20);
         due("back: seen(0)", x.seen(0), 20);
         due("back: seen(1)", x.seen(1), NONE);
@@ -765,6 +817,13 @@ public final class PromiseTests {
         due("back again: seen(0)", x.seen(0), 20);
         x.holds(0, 0, 0, 1);
         due("what came behind back() changes no image", x.back(0), 1);
+        x.undo();
+        x.holds(0, 1, 6, 1);
+        due("back: all of HOLDS", x.back(0), 1);
+        int[] all = {1, 0, 3, 2};
+        for (int what = 0; what <= 3; what++) {
+            due("back: held(0, " + what + ")", x.held(0, what), all[what]);
+        }
     }
 
     private static void promise26Count() {
