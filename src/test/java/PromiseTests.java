@@ -209,6 +209,11 @@ public final class PromiseTests {
         dueSquare("bar 1; 1;", -17);
         dueSquare("1bar;", -10);
         dueSquare("bar 1;#", -16);
+        dueSquare("bar 1#", -15);
+        dueSquare("bar 1:", -15);
+        dueSquare("bar 1 100", -16);
+        dueSquare("bar 1 02;", -16);
+        dueSquare("bar #;", -14);
         dueSquare("bar person 1;", -14);
         dueSquare("person bar 1;", -17);
         dueSquare("rain bar 1;", -15);
