@@ -214,10 +214,10 @@ public final class LeanedBars {
         ways.learn(railings, now);
         int upper = b == HELD_NONE ? ways.holdingNone(p) : ways.holding(p, b);
         int lower = ways.all();
-        if (lower == 0) {
+        int divisor = commonDivisor(upper, lower);
+        if (divisor == 0) {
             return what;
         }
-        int divisor = commonDivisor(upper, lower);
         return (what == 0 ? upper : lower) / divisor;
     }
 
@@ -353,7 +353,7 @@ public final class LeanedBars {
         return sum;
     }
 
-    /** Never 0 for a lower number above 0, so that it can divide. */
+    /** 0 only of 0 and 0: where there are no WAYS. */
     private static int commonDivisor(int upper, int lower) {
         int a = lower;
         int rest = upper;
@@ -434,12 +434,15 @@ public final class LeanedBars {
 
         /** What a row of digits is; or -1, if it can be no NUMBER anywhere. */
         int numberIn(int from, int behind) {
-            boolean zeroAhead = isSign(from, '0') && behind - from > 1;
-            if (zeroAhead || behind - from > MOST_DIGITS) {
+            if (behind - from > MOST_DIGITS) {
                 return -1;
             }
             int number = 0;
             for (int place = from; place < behind && place < length; place++) {
+                boolean zeroAhead = place > from && number == 0;
+                if (zeroAhead) {
+                    return -1;
+                }
                 number = 10 * number + bytes[place] - '0';
             }
             return number;
