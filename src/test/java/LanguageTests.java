@@ -7,7 +7,9 @@ import java.nio.charset.StandardCharsets;
 import java.nio.file.Files;
 import java.nio.file.Path;
 import java.util.Arrays;
+import java.util.Map;
 import java.util.Set;
+import java.util.TreeMap;
 import java.util.TreeSet;
 import java.util.regex.Matcher;
 import java.util.regex.Pattern;
@@ -108,6 +110,7 @@ public final class LanguageTests {
             Matcher found = Pattern.compile(pattern).matcher(code);
             holdsTrue(!found.find(), "not in the source: " + pattern);
         }
+        callsGoEightDeep(code);
         String[] lines = all.split("\n");
         int begun = -1;
         for (int i = 0; i < lines.length; i++) {
@@ -122,6 +125,40 @@ public final class LanguageTests {
             holdsTrue(!lines[i].matches(".*\\bnew [A-Z(a-z].*\\(?.*;") || field || inMaker,
                 "objects are made in the constructor alone, line " + (i + 1));
         }
+    }
+
+    /** Methods of one name are taken as one, so that it can only be deeper than it is. */
+    private static void callsGoEightDeep(String code) {
+        Map<String, Set<String>> calls = new TreeMap<>();
+        Set<String> own = null;
+        for (String line : code.split("\n")) {
+            Matcher head = Pattern.compile(" {4}(?: {4})?(?:public |private |static )*[\\w\\[\\]]+ (\\w+)\\(.*\\{").matcher(line);
+            if (head.matches()) {
+                own = calls.computeIfAbsent(head.group(1), name -> new TreeSet<>());
+            } else if (own != null) {
+                Matcher call = Pattern.compile("\\b(\\w+)\\(").matcher(line);
+                while (call.find()) {
+                    own.add(call.group(1));
+                }
+            }
+        }
+        holdsTrue(calls.size() > 60, "the methods were found: " + calls.keySet());
+        for (String name : calls.keySet()) {
+            int deep = depth(name, calls, new TreeSet<>());
+            holdsTrue(deep <= 8, "11: calls that are no recursion go eight deep: " + name + " " + deep);
+        }
+    }
+
+    private static int depth(String name, Map<String, Set<String>> calls, Set<String> open) {
+        if (!calls.containsKey(name) || !open.add(name)) {
+            return 0;
+        }
+        int deepest = 0;
+        for (String next : calls.get(name)) {
+            deepest = Math.max(deepest, depth(next, calls, open));
+        }
+        open.remove(name);
+        return 1 + deepest;
     }
 
     private static int indent(String line) {

@@ -384,6 +384,13 @@ public final class WaysEdges {
         seen(told(SIX), 20, 10, 30, 30, 10, 20).same("swaps", 2);
         seen(told(SIX), 20, 30, 10, 10, 30, 20).same("swaps", 4);
         seen(told(SIX), 30, 20, 10, 10, 20, 30).same("swaps", 2);
+        // of equal RUSTS not just any one will do
+        String pairs = "bar 1;bar 1;bar 2;bar 2;bar 3;bar 3;";
+        seen(told(pairs), 20, 30, 30, 10, 10, 20).same("swaps", 3);
+        seen(told(pairs), 30, 20, 30, 10, 20, 10).same("swaps", 3);
+        seen(told(pairs), 20, 30, 10, 30, 10, 20).same("swaps", 3);
+        seen(told(pairs), 10, 20, 30, 20, 10, 30).same("swaps", 2);
+        seen(told(pairs), 20, 20, 30, 30, 10, 10).same("swaps", 4);
     }
 
     private static void swapsOthersStay() {
