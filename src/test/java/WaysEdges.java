@@ -339,7 +339,7 @@ public final class WaysEdges {
         told("bar 1;bar 1;person 1;paint 0 0 1;").same("scrape 0", 1).same("scrape 1", 11);
         told("bar 1;bar 1;person 1;paint 1 0 1;").same("scrape 0", 0).same("scrape 1", 11);
         told("bar 1;bar 1;bar 1;person 1;paint 0 0 1;paint 2 0 1;").same("scrape 0", 1).same("scrape 1", 21);
-        // ten WINTERS each: of 2 to 20 together that of 11 is had in ten WAYS, and alone in none
+        // none to ten WINTERS each: ten together are had in 11 WAYS
         told("bar 1;person 1;person 1;").same("scrape 0", 0).same("scrape 1", 11);
         told("bar 1;person 9;paint 0 4 1;paint 0 5 1;paint 0 6 1;").same("scrape 1", 4);
     }
