@@ -839,7 +839,7 @@ public final class LeanedBars {
             gather(b);
             Arrays.fill(tally, 0);
             for (int set = 0; set < 1 << people; set++) {
-                spread(b, set, 0, 0, waysBeside(set));
+                spread(this, b, set, waysBeside(set), 0, 0);
             }
             int most = 0;
             for (int sum = 0; sum <= MOST_LEFT; sum++) {
@@ -889,7 +889,7 @@ public final class LeanedBars {
          */
         private int winters(int b, int set, int need) {
             if (isSeen[b]) {
-                return wintersFrom(0, b, set, need);
+                return wintersFrom(this, b, set, 0, need);
             }
             int rows = 1;
             for (int p = 0; p < people; p++) {
@@ -899,37 +899,37 @@ public final class LeanedBars {
         }
 
         /** Calls itself a PERSON further each time: four levels at most. */
-        private int wintersFrom(int p, int b, int set, int need) {
+        private static int wintersFrom(Ways ways, int b, int set, int p, int need) {
             if (need < 0) {
                 return 0;
             }
-            if (p >= people) {
+            if (p >= ways.people) {
                 return need == 0 ? 1 : 0;
             }
             if (!isIn(set, p)) {
-                return wintersFrom(p + 1, b, set, need);
+                return wintersFrom(ways, b, set, p + 1, need);
             }
             int rows = 0;
             for (int w = 1; w <= YEARS; w++) {
-                rows += wintersFrom(p + 1, b, set, need - leaves(p, b, w));
+                rows += wintersFrom(ways, b, set, p + 1, need - ways.leaves(p, b, w));
             }
             return rows;
         }
 
         /** Calls itself a PERSON further each time: four levels at most. */
-        private void spread(int b, int set, int p, int sum, int times) {
-            if (p >= people) {
+        private static void spread(Ways ways, int b, int set, int times, int p, int sum) {
+            if (p >= ways.people) {
                 if (within(sum, 0, MOST_LEFT)) {
-                    tally[sum] += times;
+                    ways.tally[sum] += times;
                 }
                 return;
             }
             if (!isIn(set, p)) {
-                spread(b, set, p + 1, sum, times);
+                spread(ways, b, set, times, p + 1, sum);
                 return;
             }
             for (int w = 1; w <= YEARS; w++) {
-                spread(b, set, p + 1, sum + leaves(p, b, w), times);
+                spread(ways, b, set, times, p + 1, sum + ways.leaves(p, b, w));
             }
         }
 
@@ -959,7 +959,7 @@ public final class LeanedBars {
         }
 
         int fewest() {
-            int found = fewestFrom(0);
+            int found = fewestFrom(rusts, wanted, size, 0);
             return found < TOO_MANY ? found : NONE;
         }
 
@@ -968,7 +968,7 @@ public final class LeanedBars {
          * wants, of one that is wrong too: to touch a right one never saves an exchange. Calls
          * itself at least a BAR further each time: seven levels at most.
          */
-        private int fewestFrom(int from) {
+        private static int fewestFrom(int[] rusts, int[] wanted, int size, int from) {
             int wrong = from;
             while (wrong < size && rusts[wrong] == wanted[wrong]) {
                 wrong++;
@@ -979,15 +979,15 @@ public final class LeanedBars {
             int found = TOO_MANY;
             for (int other = wrong + 1; other < size; other++) {
                 if (rusts[other] == wanted[wrong] && rusts[other] != wanted[other]) {
-                    exchange(wrong, other);
-                    found = Math.min(found, 1 + fewestFrom(wrong + 1));
-                    exchange(wrong, other);
+                    exchange(rusts, wrong, other);
+                    found = Math.min(found, 1 + fewestFrom(rusts, wanted, size, wrong + 1));
+                    exchange(rusts, wrong, other);
                 }
             }
             return found;
         }
 
-        private void exchange(int one, int other) {
+        private static void exchange(int[] rusts, int one, int other) {
             int rust = rusts[one];
             rusts[one] = rusts[other];
             rusts[other] = rust;

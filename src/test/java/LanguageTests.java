@@ -111,6 +111,7 @@ public final class LanguageTests {
             holdsTrue(!found.find(), "not in the source: " + pattern);
         }
         callsGoEightDeep(code);
+        onlyPrivateStaticOnesCallThemselves(code);
         String[] lines = all.split("\n");
         int begun = -1;
         for (int i = 0; i < lines.length; i++) {
@@ -127,12 +128,16 @@ public final class LanguageTests {
         }
     }
 
-    /** Methods of one name are taken as one, so that it can only be deeper than it is. */
-    private static void callsGoEightDeep(String code) {
+    private static Matcher headIn(String line) {
+        return Pattern.compile(" {4}(?: {4})?(?:public |private |static )*[\\w\\[\\]]+ (\\w+)\\(.*\\{").matcher(line);
+    }
+
+    /** What each method calls, by names alone. */
+    private static Map<String, Set<String>> callsIn(String code) {
         Map<String, Set<String>> calls = new TreeMap<>();
         Set<String> own = null;
         for (String line : code.split("\n")) {
-            Matcher head = Pattern.compile(" {4}(?: {4})?(?:public |private |static )*[\\w\\[\\]]+ (\\w+)\\(.*\\{").matcher(line);
+            Matcher head = headIn(line);
             if (head.matches()) {
                 own = calls.computeIfAbsent(head.group(1), name -> new TreeSet<>());
             } else if (own != null) {
@@ -143,6 +148,42 @@ public final class LanguageTests {
             }
         }
         holdsTrue(calls.size() > 60, "the methods were found: " + calls.keySet());
+        return calls;
+    }
+
+    /** One that calls itself bears the limit in its own lines; a ring of several would hide it. */
+    private static void onlyPrivateStaticOnesCallThemselves(String code) {
+        Map<String, Set<String>> calls = callsIn(code);
+        Set<String> free = new TreeSet<>();
+        for (String line : code.split("\n")) {
+            Matcher head = headIn(line);
+            if (head.matches() && !line.strip().startsWith("private static ")) {
+                free.add(head.group(1));
+            }
+        }
+        for (String name : calls.keySet()) {
+            for (String next : calls.get(name)) {
+                boolean again = next.equals(name) ? free.contains(name) : reaches(next, name, calls, new TreeSet<>());
+                holdsTrue(!again, "8: a private static method that calls itself, no other: " + name + " by " + next);
+            }
+        }
+    }
+
+    private static boolean reaches(String from, String name, Map<String, Set<String>> calls, Set<String> been) {
+        if (!calls.containsKey(from) || !been.add(from)) {
+            return false;
+        }
+        for (String next : calls.get(from)) {
+            if (next.equals(name) || reaches(next, name, calls, been)) {
+                return true;
+            }
+        }
+        return false;
+    }
+
+    /** Methods of one name are taken as one, so that it can only be deeper than it is. */
+    private static void callsGoEightDeep(String code) {
+        Map<String, Set<String>> calls = callsIn(code);
         for (String name : calls.keySet()) {
             int deep = depth(name, calls, new TreeSet<>());
             holdsTrue(deep <= 8, "11: calls that are no recursion go eight deep: " + name + " " + deep);

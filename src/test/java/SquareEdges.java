@@ -34,6 +34,7 @@ public final class SquareEdges {
         everyByteBehindANumber();
         everyByteBehindAnItem();
         wordsThatAreNoneOfThese();
+        wordsCutOffByTheEnd();
         tokensThatCannotStandThere();
         numbersTooLongOrWithAZeroAhead();
         textsThatEndTooEarly();
@@ -445,6 +446,25 @@ public final class SquareEdges {
         faults("bar 1;" + times(294, "r"), 6);
     }
 
+    private static void wordsCutOffByTheEnd() {
+        Bench.sentence("a word that is none of these, that TOKEN's (cut off by the end of THE TEXT: no other place)");
+        for (String word : new String[] {"bar", "person", "rain", "paint"}) {
+            for (int n = 1; n < word.length(); n++) {
+                String cut = word.substring(0, n);
+                faults(cut, 0);
+                faults("bar 1;" + cut, 6);
+                faults("bar 1;   " + cut + "  ", 9);
+                faults(times(300 - n, " ") + cut, 300 - n);
+                faults("bar " + cut, 4);
+            }
+            faults(word, word.length());
+            faults("bar 1;" + word, 6 + word.length());
+            faults(times(300 - word.length(), " ") + word, 300);
+            new Bench().types(word.substring(0, 2)).same("square", -10).types(word.substring(2)).same("square",
+                -10 - word.length());
+        }
+    }
+
     private static void tokensThatCannotStandThere() {
         Bench.sentence("the first TOKEN that can't stand there");
         String[] items = {"bar 1;", "person 1;", "rain 0 1;", "paint 0 0 1;"};
@@ -529,6 +549,9 @@ public final class SquareEdges {
             x.due("count 3", 2).due("seen 1", 999).due("back 0", 1).due("undo", 0).due("trace", 1011);
         }
         rich().same("square", -13).types(" 1;").due("square", 1).due("bar 0", 1);
+        // nothing of what was read ahead of the FAULT is left over for the next text
+        Bench next = rich().due("clear", 3).types(spoilt[5]).same("square", -73).due("clear", spoilt[5].length());
+        next.types("rain 1 2;").due("square", 1).like(told(RICH, "rate 3 0").types("rain 1 2;").takes("square"));
     }
 
     private static void aTextTellsAllAnew() {

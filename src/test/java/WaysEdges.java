@@ -38,6 +38,8 @@ public final class WaysEdges {
         swapsOthersStay();
         swapsNone();
         swapsAskHoldsOfYearNine();
+        wintersThatLeaveNoRust();
+        wintersThatLeaveTheSameRust();
         nothingIsChanged();
         holdsAreNotAsked();
         Bench.end();
@@ -422,6 +424,30 @@ public final class WaysEdges {
     }
 
     // ---- promises 16 to 22 together
+
+    private static void wintersThatLeaveNoRust() {
+        Bench.sentence("A WAY: that he held none, or which BAR he held and how many WINTERS (1 and 2 leave no RUST here)");
+        Bench x = told("bar 1;bar 1;person 5;paint 0 0 1;paint 0 1 1;", "saw 0 8");
+        // none; bar 0 one WINTER or two; bar 1 one to ten
+        x.same("fits", 13).same("sure 0", NOT_SURE).same("odds 0 -4 0", 1).same("odds 0 -4 1", 13);
+        x.same("odds 0 0 0", 2).same("odds 0 0 1", 13).same("odds 0 1 0", 10).same("odds 0 1 1", 13);
+        x.same("claim 0 0 1", 1).same("claim 0 0 2", 1).same("claim 0 0 3", 0).same("saves 0 0 1", 1).same("saves 0 0 10", 2);
+        x.same("scrape 0", 1).same("scrape 1", 3).takes("saw 1 10");
+        x.same("fits", 3).same("sure 0", NOT_SURE).same("odds 0 0 0", 2).same("odds 0 0 1", 3).same("odds 0 -4 0", 1);
+        x.same("claim 0 0 2", 1).same("claim 0 1 1", 0).same("saves 0 1 1", NONE).same("scrape 0", NONE).takes("hide 0");
+        x.same("fits", 11).same("scrape 0", 0).same("scrape 1", 3).same("odds 0 0 0", 10).same("odds 0 0 1", 11);
+        told("bar 1;person 5;paint 0 0 1;", "saw 0 9").same("fits", 2).takes("saw 0 54").same("fits", 1).same("sure 0", 0)
+            .same("claim 0 0 10", 1).same("claim 0 0 9", 0);
+    }
+
+    private static void wintersThatLeaveTheSameRust() {
+        Bench.sentence("A WAY: how many WINTERS (3 and 4 leave the same RUST here)");
+        Bench x = told("bar 1;person 5;person 7;paint 0 3 1;", "saw 0 24");
+        x.same("fits", 2).same("sure 0", 0).same("sure 1", HELD_NONE).same("odds 0 0 0", 1).same("odds 0 0 1", 1);
+        x.same("claim 0 0 2", 0).same("claim 0 0 3", 1).same("claim 0 0 4", 1).same("claim 0 0 5", 0);
+        x.same("saves 0 0 1", 3).same("saves 0 0 3", 3).same("saves 0 0 4", 4).same("saves 0 0 10", 4);
+        x.takes("hide 0").same("scrape 0", 0).same("scrape 1", 4);
+    }
 
     private static void nothingIsChanged() {
         Bench.sentence("(Nothing is changed) 16 to 22");
